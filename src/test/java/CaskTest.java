@@ -48,6 +48,14 @@ final class CaskTest {
         most.person(3, 0);
         most.drink(0, 0);
         CHECK.due("AGE by LAW 2, of like ones no more", most.cask(0, 1), 1);
+        WineByYears earliest = Check.cellarOf("1;01,43");
+        CHECK.due("AGE by LAW 1 of year 0", earliest.cask(0, 1), 0);
+        earliest.pour(0, 1, 1);
+        CHECK.due("AGE by LAW 1 by one litre of year 0", earliest.cask(1, 1), 0);
+        WineByYears common = Check.cellarOf("2;02,11,31");
+        common.pour(1, 0, 1);
+        common.pour(2, 0, 1);
+        CHECK.due("AGE by LAW 2 of most of year 0", common.cask(0, 1), 0);
         WineByYears mean = Check.cellarOf("3;91,09");
         mean.pour(0, 1, 1);
         CHECK.due("AGE by LAW 3, rounded down to 0", mean.cask(1, 1), 0);

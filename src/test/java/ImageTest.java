@@ -25,6 +25,8 @@ final class ImageTest {
         x.pour(0, 2, 2);
         x.drink(1, 2);
         x.person(4, 4);
+        x.drink(2, 2);
+        CHECK.due("ILL of who came since", x.about(2, 3), 1);
         x.forget();
         x.trial(2, true);
         x.trial(2, true);
@@ -99,6 +101,8 @@ final class ImageTest {
             h = 31 * h + (what == 6 ? 2 : 0);
         }
         CHECK.due("digest() of two letters", none.digest(), h);
+        WineByYears five = Check.cellarOf("2;35,72");
+        CHECK.due("digest() of a cask of just 5", five.digest(), byCalls(five, ""));
         WineByYears x = Check.cellarOf("2;34,72,50,98");
         CHECK.due("digest() without people", x.digest(), byCalls(x, ""));
         for (int kind = 0; kind < 5; kind++) {

@@ -123,6 +123,8 @@ final class PageTest {
         x.person(0, 1);
         x.person(2, 9);
         x.drink(1, 0);
+        x.drink(0, 0);
+        CHECK.due("ILL of the first one", x.about(0, 3), 1);
         x.trial(4, true);
         x.image();
         Check.write(x, "0;12");

@@ -9,8 +9,10 @@ final class TrialsTest {
         asks();
         topped();
         toppedWhenFull();
+        toppedByOne();
         toppedWrong();
         feasts();
+        feastsByLaw();
         feastsWrong();
         CHECK.end();
     }
@@ -128,6 +130,21 @@ final class TrialsTest {
         topped(x, 4, 1, 13, 1);
         topped(x, 1, 0, 9, 2);
         topped(x, 1, 1, 4, 1);
+        x.drink(0, 0);
+        topped(x, 0, 1, 16, 1);
+    }
+
+    /** By LAW 2 a second litre would change the AGE where one does not. */
+    private static void toppedByOne() {
+        WineByYears x = Check.cellarOf("2;83,39");
+        x.person(0, 5);
+        x.pour(1, 0, 1);
+        topped(x, 0, 1, 2, 1);
+        x.pour(1, 0, 2);
+        topped(x, 0, 0, 2, 1);
+        WineByYears one = Check.cellarOf("2;32,81");
+        one.person(0, 5);
+        topped(one, 0, 0, 2, 1);
     }
 
     private static void toppedWrong() {
@@ -163,6 +180,27 @@ final class TrialsTest {
         CHECK.due("feasts(9, 0, 1)", king.feasts(9, 0, 1), 9);
         CHECK.due("feasts(60, 0, 0) of no more than there is", king.feasts(60, 0, 0), 18);
         CHECK.due("feasts(1, the greatest seed, 2)", king.feasts(1, Integer.MAX_VALUE, 2), 288979989);
+    }
+
+    /** What is tried is of the same law and people of the same kinds. */
+    private static void feastsByLaw() {
+        // One cask of 4 litres of year 1, 4 of year 9; the means are 5, 4, 4, 3, 2, 1, 1, 1.
+        int[] due = {4, 8, 7, 8};
+        for (int law = 0; law < 4; law++) {
+            WineByYears x = Check.cellarOf(law + ";14,94");
+            x.pour(1, 0, 4);
+            x.person(0, 5);
+            CHECK.due("LITRES by LAW " + law, x.feasts(60, 3, 1), 0);
+            CHECK.due("ILL by LAW " + law, x.feasts(60, 3, 0), due[law]);
+        }
+        for (int kind = 0; kind < 5; kind++) {
+            WineByYears x = Check.cellarOf("3;69,60");
+            x.person(3, 0);
+            x.image();
+            x.person(kind, 5);
+            int[] ill = {0, 0, 1, 0, 0};
+            CHECK.due("ILL of KIND " + kind, x.feasts(60, 3, 0) > 0 ? 1 : 0, ill[kind]);
+        }
     }
 
     private static void feastsWrong() {

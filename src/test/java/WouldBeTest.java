@@ -7,6 +7,7 @@ final class WouldBeTest {
         tableWrong();
         blends();
         blendTies();
+        blendOfYearZero();
         blendWrong();
         tops();
         topWrong();
@@ -38,6 +39,24 @@ final class WouldBeTest {
         WineByYears dry = Check.cellarOf("0;30,90");
         dry.person(3, 0);
         CHECK.due("nothing to drink", dry.table(1), 0);
+        tableOfFewWho();
+    }
+
+    /** Many litres of which few MAY, and few litres of which many MAY, in the first or last cask. */
+    private static void tableOfFewWho() {
+        for (String text : new String[] {"0;59,11", "0;11,59"}) {
+            WineByYears x = Check.cellarOf(text);
+            x.person(2, 9);
+            x.person(0, 0);
+            x.person(0, 4);
+            x.person(2, 8);
+            CHECK.due("two of four at " + text, x.table(15), 2);
+            CHECK.due("none of two at " + text, x.table(9), 0);
+        }
+        WineByYears last = Check.cellarOf("0;10,30,51");
+        last.person(0, 0);
+        last.person(0, 4);
+        CHECK.due("one litre in the last cask", last.table(3), 1);
     }
 
     private static void tableWrong() {
@@ -85,6 +104,17 @@ final class WouldBeTest {
         blend(dry, 0, 0, 0, 0);
         blend(dry, 1, 0, WineByYears.NONE, WineByYears.NONE);
         blend(dry, 0, 1, WineByYears.NONE, WineByYears.NONE);
+    }
+
+    /** Year 0 is a year like others: by LAW 1 one litre of it makes a blend as old. */
+    private static void blendOfYearZero() {
+        WineByYears x = Check.cellarOf("1;01,59,51");
+        x.person(0, 4);
+        blend(x, 1, 10, 2, 6);
+        blend(x, 1, 11, WineByYears.NONE, WineByYears.NONE);
+        blend(x, 0, 11, 3, 7);
+        top(x, 1, 0, WineByYears.NONE, WineByYears.NONE);
+        blend(x, 1, 1, 1, 2);
     }
 
     /** Of as many casks the least bits; fewer casks of greater bits are better than more of less. */
