@@ -2,8 +2,11 @@ import java.util.Random;
 
 /** Long runs of calls by fixed seeds, each compared with PlainModel: all promises together. */
 final class ModelTest {
-    private static final int RUNS = 500;
+    private static final int RUNS = 800;
+    /** Nothing is promised behind an object's 512th call. */
     private static final int CALLS = 512;
+    /** A step writes a whole cellar at most (blank(), 16 letters, cellar()), and asks for the digest. */
+    private static final int CALLS_OF_A_STEP = 19;
     private static final int[] ODD = {-1, Integer.MIN_VALUE, Integer.MAX_VALUE, 5, 32, 100, 1 << 30};
 
     private static final Check CHECK = new Check();
@@ -14,6 +17,7 @@ final class ModelTest {
     private final int run;
     /** A run tells of few years and litres, or of many, so that ties and empty casks are common. */
     private final int span;
+    private int calls = 0;
 
     private ModelTest(int run) {
         this.run = run;
@@ -29,19 +33,24 @@ final class ModelTest {
     }
 
     private void play() {
-        int calls = 0;
-        while (calls < CALLS) {
-            if (random.nextInt(120) == 0 || calls == 20 && x.count(1) == 0) {
-                calls += writeCellar();
+        while (calls + CALLS_OF_A_STEP <= CALLS) {
+            if (random.nextInt(120) == 0 || calls > 20 && model.count(1) == 0) {
+                writeCellar();
             } else {
                 step(random.nextInt(26));
-                calls++;
             }
+            if (random.nextInt(3) == 0) {
+                due("digest()", x.digest(), model.digest());
+            }
+        }
+        while (calls < CALLS) {
             due("digest()", x.digest(), model.digest());
         }
     }
 
+    /** The answer of one call of the object. */
     private void due(String call, long got, long want) {
+        calls++;
         CHECK.due("run " + run + ": " + call, got, want);
     }
 
@@ -55,29 +64,28 @@ final class ModelTest {
     }
 
     private int people() {
-        return below(1 << x.count(3));
+        return below(1 << model.count(3));
     }
 
-    private int writeCellar() {
+    private void writeCellar() {
         due("blank()", x.blank(), model.blank());
         int casks = 2 + random.nextInt(4);
         StringBuilder text = new StringBuilder().append(random.nextInt(4)).append(';');
         for (int cask = 0; cask < casks; cask++) {
             text.append(cask == 0 ? "" : ",");
-            text.append(random.nextInt(span) * 9 / span).append(random.nextInt(random.nextBoolean() ? span : 10) % 10);
+            text.append(random.nextInt(span) * 9 / (span - 1)).append(random.nextInt(random.nextBoolean() ? span : 10) % 10);
         }
         for (int i = 0; i < text.length(); i++) {
             due("letter(" + text.charAt(i) + ")", x.letter(text.charAt(i)), model.letter(text.charAt(i)));
         }
         due("cellar() of " + text, x.cellar(), model.cellar());
-        return text.length() + 2;
     }
 
     private void step(int which) {
-        int casks = x.count(1);
+        int casks = model.count(1);
         int a = below(casks);
         int b = below(casks);
-        int person = below(x.count(3));
+        int person = below(model.count(3));
         int two = below(2);
         switch (which) {
             case 0: letter(); break;
