@@ -12,6 +12,7 @@ final class FeastsEdgesTest {
         seedsWithinTheRest();
         whoDrinks();
         whatIsDrunk();
+        drawsByRounding();
         ofAnEmptyOneNothing();
         asTheyWouldBe();
         times();
@@ -84,8 +85,7 @@ final class FeastsEdgesTest {
         for (int casks = 2; casks <= 5; casks++) {
             for (int seed : SEEDS) {
                 for (int cask = 0; cask < casks; cask++) {
-                    String text = "0;50,50,50,50,50".substring(0, 3 * cask + 3) + "9" + ",50,50,50,50".substring(3 * cask);
-                    WineByYears x = Check.witches(text.substring(0, 3 * casks + 1), 1);
+                    WineByYears x = Check.witches(onlyIn(cask, 9).substring(0, 3 * casks + 1), 1);
                     int due = 9 - (drawn(seed, 2, casks) == cask ? 1 : 0);
                     CHECK.due("LITRES of " + cask + " of " + casks + ", seed " + seed, x.feasts(1, seed, 1), due);
                     due -= drawn(seed, 4, casks) == cask ? 1 : 0;
@@ -93,6 +93,40 @@ final class FeastsEdgesTest {
                 }
             }
         }
+    }
+
+    /** The seed by which so many DRAWS lead to this one. */
+    private static int seedAhead(long seed, int draws) {
+        BigInteger all = BigInteger.TWO.pow(31);
+        BigInteger back = BigInteger.valueOf(1103515245L).modInverse(all);
+        BigInteger ahead = BigInteger.valueOf(seed);
+        for (int draw = 0; draw < draws; draw++) {
+            ahead = ahead.subtract(BigInteger.valueOf(12345L)).multiply(back).mod(all);
+        }
+        return ahead.intValueExact();
+    }
+
+    /** The last seeds that are drawn as one number, and the first that are drawn as the next. */
+    private static void drawsByRounding() {
+        CHECK.words("then that by 65536 (rounded down), its rest");
+        int[] seeds = {0, 65535, 65536, 2 * 65536 - 1, 2 * 65536, 5 * 65536 - 1, 5 * 65536, Integer.MAX_VALUE};
+        int[] due = {0, 0, 1, 1, 2, 4, 0, 32767 % 5};
+        for (int i = 0; i < seeds.length; i++) {
+            for (int number = 0; number < 5; number++) {
+                String[] people = {"39", "39", "39", "39", "39"};
+                people[number] = "29";
+                CHECK.due("is " + number + " drawn by " + seeds[i],
+                    Check.peopled("0;59,59", people).feasts(1, seedAhead(seeds[i], 1), 0), due[i] == number ? 1 : 0);
+                WineByYears one = Check.witches(onlyIn(number, 1), 1);
+                CHECK.due("is cask " + number + " drawn by " + seeds[i],
+                    1 - one.feasts(1, seedAhead(seeds[i], 2), 1), due[i] == number ? 1 : 0);
+            }
+        }
+    }
+
+    /** Five casks, all of them empty but for one. */
+    private static String onlyIn(int cask, int litres) {
+        return "0;50,50,50,50,50".substring(0, 3 * cask + 3) + litres + ",50,50,50,50".substring(3 * cask);
     }
 
     private static void ofAnEmptyOneNothing() {
@@ -127,10 +161,13 @@ final class FeastsEdgesTest {
         CHECK.due("ILL by the feasts alone", ill.feasts(60, 3, 0), 2);
         CHECK.due("ILL so far", ill.count(4), 1);
         CHECK.due("LITRES so far", ill.count(2), 2);
-        // By LAW 3 the mean of 2 of year 0 and 2 of year 9 is 4, then 3, then 0, 0, as it is each time.
-        WineByYears mean = Check.peopled("3;02,92", "02");
-        mean.pour(1, 0, 2);
-        CHECK.due("ILL by what is left each time", mean.feasts(60, 3, 0), 2);
+        // The AGES of 2 of year 0 and 2 of year 9, as they are drunk: 9 9 0 0, 0 0 0 0, 9 0 0 0, 4 3 0 0.
+        int[] due = {2, 4, 3, 3};
+        for (int law = 0; law < 4; law++) {
+            WineByYears mixed = Check.peopled(law + ";02,92", "03");
+            mixed.pour(1, 0, 2);
+            CHECK.due("ILL by what is left each time, LAW " + law, mixed.feasts(60, 3, 0), due[law]);
+        }
     }
 
     private static void times() {

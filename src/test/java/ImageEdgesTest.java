@@ -351,7 +351,8 @@ final class ImageEdgesTest {
     }
 
     private static void digestOfAll() {
-        CHECK.words("of each CASK what cask() tells for 0 to 3 and 10 to 19; of each PERSON what about() tells for 0 to 3");
+        CHECK.words("of each CASK what cask() tells for 0 to 3 and 10 to 19; "
+            + "of each PERSON what about() tells for 0 to 3");
         WineByYears x = Check.peopled("3;19,28,37,46,55", "01", "12", "23", "34", "45");
         for (int person = 0; person < 5; person++) {
             x.drink(person, 4 - person);

@@ -73,7 +73,8 @@ final class ModelTest {
         StringBuilder text = new StringBuilder().append(random.nextInt(4)).append(';');
         for (int cask = 0; cask < casks; cask++) {
             text.append(cask == 0 ? "" : ",");
-            text.append(random.nextInt(span) * 9 / (span - 1)).append(random.nextInt(random.nextBoolean() ? span : 10) % 10);
+            text.append(random.nextInt(span) * 9 / (span - 1));
+            text.append(random.nextInt(random.nextBoolean() ? span : 10) % 10);
         }
         for (int i = 0; i < text.length(); i++) {
             due("letter(" + text.charAt(i) + ")", x.letter(text.charAt(i)), model.letter(text.charAt(i)));

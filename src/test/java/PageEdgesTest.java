@@ -258,7 +258,8 @@ final class PageEdgesTest {
 
     private static void faultIsTheFirst() {
         CHECK.words("behind those ahead of it");
-        String[] wrong = {"4;::", "0::,", "0;:a", "0;0:;", "0;00;;", "0;00,,,", "/", "0;00,00,00,00,00,0", "0;00,00,0, "};
+        String[] wrong = {"4;::", "0::,", "0;:a", "0;0:;", "0;00;;", "0;00,,,", "/",
+            "0;00,00,00,00,00,0", "0;00,00,0, "};
         int[] due = {0, 1, 2, 3, 4, 5, 0, 16, 9};
         for (int i = 0; i < wrong.length; i++) {
             String text = wrong[i];

@@ -341,9 +341,9 @@ final class WouldBeEdgesTest {
         top(Check.peopled("2;12,81,82", "05"), 1, 0, 2, 2);
         top(Check.peopled("0;59,10", "05"), 1, 0, NONE, NONE);
         top(Check.peopled("0;10,59", "05"), 1, 1, NONE, NONE);
-        // Out of itself nothing is poured: its own year 9 is no help.
-        WineByYears own = Check.peopled("1;19,99", "08");
-        own.pour(1, 0, 9);
+        // By LAW 2 four more of year 9 are needed: its own five are no help.
+        WineByYears own = Check.peopled("2;19,95", "05");
+        own.pour(1, 0, 5);
         top(own, 1, 0, NONE, NONE);
     }
 
