@@ -22,9 +22,14 @@ final class FaceTest {
         check.due("public constructors", WineByYears.class.getConstructors().length, 1);
         calls(check);
         fields(check);
+        check.due("public constructor's parameters", WineByYears.class.getConstructors()[0].getParameterCount(), 0);
         for (Class<?> inner : WineByYears.class.getDeclaredClasses()) {
-            check.due(inner + " is static", inner.getModifiers() & Modifier.STATIC, Modifier.STATIC);
+            int modifiers = inner.getModifiers();
+            check.due(inner + " is static", modifiers & Modifier.STATIC, Modifier.STATIC);
+            check.due(inner + " is not for others", modifiers & (Modifier.PUBLIC | Modifier.PROTECTED), 0);
         }
+        check.due("what the class is of", WineByYears.class.getSuperclass() == Object.class
+            && WineByYears.class.getInterfaces().length == 0 ? 1 : 0, 1);
         constants(check);
         check.end();
     }
@@ -39,6 +44,8 @@ final class FaceTest {
         for (Method method : WineByYears.class.getDeclaredMethods()) {
             if (Modifier.isPublic(method.getModifiers())) {
                 check.due("in the document: " + signature(method), due.remove(signature(method)) ? 1 : 0, 1);
+                check.due(method + " is of an object", method.getModifiers() & Modifier.STATIC, 0);
+                check.due(method + " tells of exceptions", method.getExceptionTypes().length, 0);
             } else {
                 check.due(method + " is private", method.getModifiers() & Modifier.PRIVATE, Modifier.PRIVATE);
                 check.due(method + " has a name of its own", names.contains(method.getName()) ? 1 : 0, 0);
@@ -64,6 +71,8 @@ final class FaceTest {
             int modifiers = field.getModifiers();
             if (Modifier.isPublic(modifiers)) {
                 publicOnes++;
+                check.due(field + " is a constant int",
+                    Modifier.isStatic(modifiers) && field.getType() == int.class ? 1 : 0, 1);
             } else {
                 check.due(field + " is private", modifiers & Modifier.PRIVATE, Modifier.PRIVATE);
             }

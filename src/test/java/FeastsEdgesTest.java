@@ -167,6 +167,12 @@ final class FeastsEdgesTest {
             WineByYears mixed = Check.peopled(law + ";02,92", "03");
             mixed.pour(1, 0, 2);
             CHECK.due("ILL by what is left each time, LAW " + law, mixed.feasts(60, 3, 0), due[law]);
+            // Of three YEARS an ABBOT MAY not, of the two and the one that are left he MAY.
+            WineByYears abbot = Check.peopled(law + ";71,81,91", "40");
+            abbot.pour(1, 0, 1);
+            abbot.pour(2, 0, 1);
+            CHECK.due("ILL of an ABBOT, LAW " + law, abbot.feasts(60, 3, 0), 1);
+            CHECK.due("LITRES when all is drunk, LAW " + law, abbot.feasts(60, 3, 1), 0);
         }
     }
 

@@ -13,6 +13,7 @@ final class TrialsEdgesTest {
         birthsOfAllTrials();
         birthsAsItIsNow();
         birthsOfAnEmptyOne();
+        ofThreeYears();
         birthsRefusals();
         askAtWorst();
         askOfTheseYears();
@@ -168,6 +169,35 @@ final class TrialsEdgesTest {
             x.trial(1, false);
             CHECK.due("births(" + kind + "), not ILL of an empty one", x.births(kind), 0);
         }
+    }
+
+    /** Cask 0 has litres of three YEARS, 2 to 4, cask 1 of year 6; the others are empty. */
+    private static WineByYears threeYears() {
+        WineByYears x = Check.peopled("0;21,61,31,41", "40", "10");
+        x.pour(2, 0, 1);
+        x.pour(3, 0, 1);
+        return x;
+    }
+
+    private static void ofThreeYears() {
+        CHECK.words("an ABBOT as a WIDOW, but not if there are LITRES of three YEARS or more in it");
+        WineByYears ill = threeYears();
+        CHECK.due("ask(1), cask 0 leaves five", ill.ask(1), 0);
+        CHECK.due("ask(4), cask 0 leaves all ten", ill.ask(4), 1);
+        ill.trial(0, true);
+        CHECK.due("births(1), ILL of AGE 4", ill.births(1), ALL - 31);
+        CHECK.due("births(4), ILL of three YEARS", ill.births(4), ALL);
+        ill.drink(1, 0);
+        CHECK.due("births(4), ILL of AGE 3, of the two YEARS that are left", ill.births(4), ALL - 15);
+        WineByYears well = threeYears();
+        well.trial(0, false);
+        CHECK.due("births(1), not ILL of AGE 4", well.births(1), 31);
+        CHECK.due("births(4), not ILL of three YEARS", well.births(4), 0);
+        CHECK.due("ask(4) of no YEAR", well.ask(4), NONE);
+        // A litre out of cask 0 leaves two YEARS in it; three stay if one is poured out of cask 1, or four.
+        topped(threeYears(), 0, 3, 3, 1);
+        topped(threeYears(), 0, 2, 3, 5);
+        topped(threeYears(), 0, 1, 0, NONE);
     }
 
     private static void birthsRefusals() {

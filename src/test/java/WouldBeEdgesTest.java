@@ -72,6 +72,13 @@ final class WouldBeEdgesTest {
         table(x, 8, 0);
         table(x, 16, 0);
         table(x, 26, 0);
+        WineByYears abbot = Check.peopled("0;71,81,91", "40", "10");
+        abbot.pour(1, 0, 1);
+        table(abbot, 3, 2);
+        abbot.pour(2, 0, 1);
+        table(abbot, 3, 1);
+        table(abbot, 1, 0);
+        table(abbot, 2, 1);
     }
 
     private static void asTheyAreNow() {
