@@ -13,7 +13,7 @@ final class MixedRunsTest {
     private static final Check CHECK = new Check();
     /** "An object is used for at most 512 calls after it has been made". */
     private static final int CALLS = 512;
-    private static final int ROUNDS = 60;
+    private static final int ROUNDS = 120;
     private static final int SIDE_BY_SIDE = 4;
     private static final int MANY = 20;
 
@@ -145,12 +145,13 @@ final class MixedRunsTest {
     private String text() {
         int span = 1 + random.nextInt(10);
         StringBuilder text = new StringBuilder().append(random.nextInt(4)).append(';');
-        int casks = 2 + random.nextInt(4);
+        int casks = 2 + random.nextInt(5);
         for (int cask = 0; cask < casks; cask++) {
             text.append(cask == 0 ? "" : ",").append(9 - random.nextInt(span));
-            text.append(random.nextInt(6) == 0 ? 0 : random.nextInt(10));
+            text.append(random.nextInt(6) == 0 ? 0 : 9 - random.nextInt(10) % (1 + random.nextInt(10)));
         }
-        return text.toString();
+        // Six casks are more than a cellar has, and a page ends within the sixth.
+        return text.substring(0, Math.min(text.length(), 18));
     }
 
     /** Mostly a number that the call takes, now and then another one. */
@@ -158,10 +159,13 @@ final class MixedRunsTest {
         if (call == 0 && place == 0 && !unwritten.isEmpty()) {
             char sign = unwritten.charAt(0);
             unwritten = unwritten.substring(1);
-            return sign;
+            return random.nextInt(80) == 0 ? ' ' + random.nextInt(95) : sign;
         }
         if (random.nextInt(30) == 0) {
             return ODD[random.nextInt(ODD.length)];
+        }
+        if (call == 9 && place == 1 && random.nextBoolean()) {
+            return fullest();
         }
         int casks = model.count(1) + random.nextInt(12) / 11;
         int people = model.count(3) + random.nextInt(12) / 11;
@@ -170,7 +174,17 @@ final class MixedRunsTest {
             {1 << people}, {1 << people, random.nextBoolean() ? 12 : 100, 2}, {1 << people, casks, 2}, {casks, 2}, {},
             {5}, {5}, {casks, 1 << people, 2}, {61, Integer.MAX_VALUE, 3}, {}, {}, {8}, {}};
         int bound = place < bounds[call].length ? bounds[call][place] : 1;
-        return random.nextInt(Math.max(1, bound));
+        int edge = random.nextInt(40);
+        return edge == 0 ? 0 : edge == 1 ? bound : random.nextInt(Math.max(1, bound));
+    }
+
+    /** The cask that has most, so that now and then one becomes full. */
+    private int fullest() {
+        int best = 0;
+        for (int cask = 1; cask < model.count(1); cask++) {
+            best = model.cask(cask, 0) > model.cask(best, 0) ? cask : best;
+        }
+        return best;
     }
 
     private long ofObject(int call, int a, int b, int c) {
